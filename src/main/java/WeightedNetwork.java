@@ -226,18 +226,14 @@ public final class WeightedNetwork {
             sum += met;
         }
         for (int table = 0; table < tableCount; table++) {
-            int met = pairCostMet(table, assignment);
+            int valueOfX = valueIn(assignment, tableX[table]);
+            int valueOfY = valueIn(assignment, tableY[table]);
+            int met = pairCosts[table * PAIRS + valueOfY * VALUES + valueOfX];
             if (met == FORBIDS) {
                 return NONE;
             }
             sum += met;
         }
         return sum;
-    }
-
-    private int pairCostMet(int table, int assignment) {
-        int valueOfX = valueIn(assignment, tableX[table]);
-        int valueOfY = valueIn(assignment, tableY[table]);
-        return pairCosts[table * PAIRS + valueOfY * VALUES + valueOfX];
     }
 }

@@ -106,14 +106,14 @@ public final class WeightedNetworkFace {
                 fault("made outside a field's initialiser: " + made.group().trim());
             }
         }
-        Matcher nested = Pattern.compile("\\b(?!if|for|while|switch|return)\\w+\\([^()]*\\b\\w+\\(").matcher(bodies(code));
+        Matcher nested = Pattern.compile("\\b\\w+\\([^()]*\\b\\w+\\(").matcher(withoutHeads(code));
         while (nested.find()) {
             fault("a call inside the arguments of another: " + nested.group());
         }
     }
 
-    /** Without the heads of statements, whose parentheses are not those of a call. */
-    private static String bodies(String code) {
+    /** The parenthesis that opens the head of a statement is not that of a call. */
+    private static String withoutHeads(String code) {
         return code.replaceAll("\\b(if|for|while|switch)\\s*\\(", "$1 [");
     }
 }
